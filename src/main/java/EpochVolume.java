@@ -982,8 +982,9 @@ public final class EpochVolume {
                 if ((used >>> k % 32 & 1) == 0) {
                     tell(USED_MAP, k / 32, used | 1 << k % 32);
                     int b = REST + k;
-                    Arrays.fill(now, b * WORDS, (b + 1) * WORDS, 0);
-                    setChanged(b);
+                    for (int w = 0; w < WORDS; w++) {
+                        tell(b, w, 0);
+                    }
                     return b;
                 }
             }
