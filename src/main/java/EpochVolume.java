@@ -85,14 +85,14 @@ public final class EpochVolume {
         if (!tree.isFile(file) || place < 0 || place >= FILE_PLACES) {
             throw new NoSuchElementException("no such file, or place");
         }
-        int b = tree.blockOfInt(file, place);
+        int b = tree.blockOf(file, place / WORDS);
         if (b == 0) {
             return 0;
         }
         if (!isLoaded(b)) {
             throw new IllegalStateException("it goes down by this");
         }
-        return tree.at(b, place % WORDS);
+        return place < tree.inodeWord(file, SIZE) ? tree.at(b, place % WORDS) : 0;
     }
 
     public int cut(int file, int n) {
@@ -1164,11 +1164,6 @@ public final class EpochVolume {
                 }
             }
             return 0;
-        }
-
-        /** The block that is to be read for an int; 0: the int is 0, and none is read. */
-        int blockOfInt(int f, int place) {
-            return place >= inodeWord(f, SIZE) ? 0 : blockOf(f, place / WORDS);
         }
 
         void loadFileBlock(int b) {

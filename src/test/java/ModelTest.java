@@ -877,11 +877,12 @@ public final class ModelTest {
             if (!is(f, 2) || p < 0 || p > 319) {
                 throw new NoSuchElementException();
             }
-            if (p >= node(f, 1) || blockOf(f, p / 16) == 0) {
+            if (blockOf(f, p / 16) == 0) {
                 return 0;
             }
             try {
-                return fileBlock(blockOf(f, p / 16))[p % 16];
+                int[] words = fileBlock(blockOf(f, p / 16));
+                return p < node(f, 1) ? words[p % 16] : 0;
             } catch (PowerGone e) {
                 // told below
             }

@@ -94,6 +94,7 @@ public final class PromisesTest {
         writes();
         writeIsFull();
         reads();
+        readsFromSizeOn();
         readGoesDown();
         cuts();
         cutReadsItsBlock();
@@ -330,6 +331,38 @@ public final class PromisesTest {
         v.sync();
         due("read(1, 0), kept", readOf(v, 1, 0), 6);
         slotIs(v, 24, 1, 43, 0, 1);
+    }
+
+    /** From the size on 0 is answered, but the block of such an int is READ as any other, if it is there. */
+    private static void readsFromSizeOn() {
+        part = "5, read from the size on";
+        EpochVolume v = onDisc();
+        v.attach();
+        int writes = v.count(15);
+        due("read(1, 16), no block", readOf(v, 1, 16), 0);
+        due("read(1, 319), no block", readOf(v, 1, 319), 0);
+        due("count(15)", v.count(15), writes);
+        slotIs(v, 24, 0, NONE, 0, 0, 1);
+        due("read(1, 1)", readOf(v, 1, 1), 0);
+        due("count(15)", v.count(15), writes + 1);
+        slotIs(v, 24, 1, 43, 0, 0, 0);
+        due("read(1, 15)", readOf(v, 1, 15), 0);
+        due("count(15)", v.count(15), writes + 1);
+        slotIs(v, 24, 1, 43, 0, 1, 0);
+        v = onDisc();
+        v.attach();
+        v.write(1, 0, 6);
+        writes = v.count(15);
+        // the slot is marked no more than it was by the write's own reading
+        due("read(1, 15), changed", readOf(v, 1, 15), 0);
+        slotIs(v, 24, 1, 43, 0, 0, 0);
+        due("count(15)", v.count(15), writes);
+        v = onDisc();
+        v.attach();
+        v.limit(1, 0);
+        due("read(1, 16), limited, no block", readOf(v, 1, 16), 0);
+        due("read(1, 15), limited", readOf(v, 1, 15), ILLEGAL_STATE);
+        due("count(0)", v.count(0), 0);
     }
 
     private static void readGoesDown() {
