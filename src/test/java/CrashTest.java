@@ -40,7 +40,7 @@ public final class CrashTest {
     static final class Run {
         final long seed;
         final Random random;
-        final EpochVolume v;
+        final Twin v;
         Plain plain = new Plain();
         /** The trees that were committed, the latest one last. */
         final List<String> committed = new ArrayList<>();
@@ -49,7 +49,7 @@ public final class CrashTest {
         Run(long seed) {
             this.seed = seed;
             random = new Random(seed);
-            v = new EpochVolume(1 + random.nextInt(8), 2 + random.nextInt(7), 1 + random.nextInt(8));
+            v = new Twin(1 + random.nextInt(8), 2 + random.nextInt(7), 1 + random.nextInt(8));
             committed.add(plain.toString());
         }
 
@@ -97,11 +97,11 @@ public final class CrashTest {
                 int other = 1 + random.nextInt(9);
                 return moved(v.move(d, name, to, other), d, name, to, other);
             } else if (r < 18) {
-                return v.sync() != EpochVolume.DOWN;
+                return v.sync() != Check.DOWN;
             } else if (r < 19) {
-                return v.land() != EpochVolume.DOWN;
+                return v.land() != Check.DOWN;
             }
-            return v.home() != EpochVolume.DOWN;
+            return v.home() != Check.DOWN;
         }
 
         int pick(List<Integer> those) {
@@ -118,7 +118,7 @@ public final class CrashTest {
                     plain.sizes.put(answer, 0);
                 }
             }
-            return answer != EpochVolume.DOWN;
+            return answer != Check.DOWN;
         }
 
         boolean wrote(int answer, int f, int place, int value) {
@@ -129,7 +129,7 @@ public final class CrashTest {
                     fail("write answered " + answer + ", the size is " + plain.sizes.get(f));
                 }
             }
-            return answer != EpochVolume.DOWN;
+            return answer != Check.DOWN;
         }
 
         void put(int f, int place, int value) {
@@ -145,7 +145,7 @@ public final class CrashTest {
                 plain.files.get(f).tailMap(n, true).clear();
                 plain.sizes.put(f, n);
             }
-            return answer != EpochVolume.DOWN;
+            return answer != Check.DOWN;
         }
 
         boolean removed(int answer, int d, int name) {
@@ -155,7 +155,7 @@ public final class CrashTest {
                 plain.files.remove(i);
                 plain.sizes.remove(i);
             }
-            return answer != EpochVolume.DOWN;
+            return answer != Check.DOWN;
         }
 
         boolean moved(int answer, int d, int name, int to, int other) {
@@ -163,7 +163,7 @@ public final class CrashTest {
                 int i = plain.directories.get(d).remove(name);
                 plain.directories.get(to).put(other, i);
             }
-            return answer != EpochVolume.DOWN;
+            return answer != Check.DOWN;
         }
 
         void recover(String before) {
@@ -171,8 +171,8 @@ public final class CrashTest {
             if (lost) {
                 v.lose(0);
             }
-            int answer = EpochVolume.DOWN;
-            for (int n = 0; n < 100 && answer == EpochVolume.DOWN; n++) {
+            int answer = Check.DOWN;
+            for (int n = 0; n < 100 && answer == Check.DOWN; n++) {
                 answer = v.mount(!lost, random.nextInt(3) == 0 ? 0 : 1 + random.nextInt(40), random.nextLong());
                 if (answer >= 0) {
                     v.crash(random.nextLong());
@@ -217,14 +217,7 @@ public final class CrashTest {
                     }
                     p.directories.put(i, names);
                 } else if (v.inode(i, 0) == 2) {
-                    TreeMap<Integer, Integer> ints = new TreeMap<>();
-                    for (int q = 0; q < 320; q++) {
-                        int x = v.read(i, q);
-                        if (x != 0) {
-                            ints.put(q, x);
-                        }
-                    }
-                    p.files.put(i, ints);
+                    p.files.put(i, intsOf(i));
                     p.sizes.put(i, v.inode(i, 1));
                 }
             }
@@ -232,6 +225,22 @@ public final class CrashTest {
                 fail("inodes have " + blocks + " blocks, used are " + v.count(11));
             }
             return p;
+        }
+
+        /** Read from copies, as a file's reads are more than the object's calls allow. */
+        TreeMap<Integer, Integer> intsOf(int file) {
+            TreeMap<Integer, Integer> ints = new TreeMap<>();
+            Twin copy = v.copy();
+            for (int q = 0; q < 320; q++) {
+                if (copy.left() == 0) {
+                    copy = v.copy();
+                }
+                long x = copy.read(file, q);
+                if (x != 0) {
+                    ints.put(q, (int) x);
+                }
+            }
+            return ints;
         }
     }
 }

@@ -30,9 +30,11 @@ public final class ModelTest {
     static final class Run {
         final long seed;
         final Random random;
-        final EpochVolume real;
+        final Twin real;
         final Model model;
         final int style;
+        /** Below 512, so that an object can still be asked something behind its last change. */
+        final int length;
         int calls = 0;
 
         Run(long seed) {
@@ -42,7 +44,8 @@ public final class ModelTest {
             int ways = random.nextInt(10);
             int epochs = random.nextInt(10);
             style = random.nextInt(4);
-            real = new EpochVolume(sets, ways, epochs);
+            real = new Twin(sets, ways, epochs);
+            length = 40 + random.nextInt(400);
             model = new Model(sets, ways, epochs);
         }
 
@@ -54,14 +57,16 @@ public final class ModelTest {
         }
 
         void go() {
-            while (calls < 500 && wrong == 0) {
+            while (calls < length && wrong == 0) {
                 oneCall();
                 calls++;
-                compareCounts();
-                if (random.nextInt(25) == 0) {
+                int what = random.nextInt(20) - 1;
+                same("count(" + what + ")", real.count(what), model.count(what));
+                if (random.nextInt(200) == 0) {
                     compareAll();
                 }
             }
+            compareCounts();
             compareAll();
         }
 
@@ -190,21 +195,14 @@ public final class ModelTest {
         void readBoth() {
             int f = aFile();
             int p = aPlace();
-            long got;
             long want;
-            try {
-                got = real.read(f, p);
-            } catch (IllegalStateException e) {
-                got = 1L << 40;
-            } catch (NoSuchElementException e) {
-                got = 1L << 41;
-            }
+            long got = real.read(f, p);
             try {
                 want = model.read(f, p);
             } catch (IllegalStateException e) {
-                want = 1L << 40;
+                want = Twin.ILLEGAL_STATE;
             } catch (NoSuchElementException e) {
-                want = 1L << 41;
+                want = Twin.NO_SUCH;
             }
             same("read(" + f + ", " + p + ")", got, want);
         }
@@ -233,11 +231,19 @@ public final class ModelTest {
             }
             for (int b = -1; b < 126; b++) {
                 for (int w = -1; w < 17; w++) {
-                    same("word(0, " + b + ", " + w + ", false)", real.word(0, b, w, false), model.word(0, b, w, false));
-                    same("word(0, " + b + ", " + w + ", true)", real.word(0, b, w, true), model.word(0, b, w, true));
-                    same("word(1, " + b + ", " + w + ", false)", real.word(1, b, w, false), model.word(1, b, w, false));
-                    same("word(1, " + b + ", " + w + ", true)", real.word(1, b, w, true), model.word(1, b, w, true));
+                    compareWord(0, b, w, false);
+                    compareWord(0, b, w, true);
+                    compareWord(1, b, w, false);
+                    compareWord(1, b, w, true);
                 }
+            }
+        }
+
+        void compareWord(int device, int b, int w, boolean stable) {
+            int got = real.word(device, b, w, stable);
+            int want = model.word(device, b, w, stable);
+            if (got != want) {
+                same("word(" + device + ", " + b + ", " + w + ", " + stable + ")", got, want);
             }
         }
     }

@@ -1,90 +1,5 @@
-import java.util.NoSuchElementException;
-
 /** For each promise of the document: ordinary inputs, the edges that it names, and wrong inputs. */
-public final class PromisesTest {
-    private static final int NONE = -1, THERE = -2, FULL = -3, WRONG = -4, DOWN = -9;
-    private static final int NO_WORD = Integer.MIN_VALUE;
-    private static final int DISC = 0, FLASH = 1;
-    /** What a read that throws counts as here. */
-    private static final long ILLEGAL_STATE = 1L << 40, NO_SUCH = 1L << 41;
-
-    private static String part = "";
-    private static int wrong = 0;
-
-    private static void due(String call, long got, long want) {
-        if (got != want) {
-            wrong++;
-            System.out.println(part + ": " + call + " answered " + got + ", due is " + want);
-        }
-    }
-
-    private static void due(String call, boolean got, boolean want) {
-        due(call, got ? 1 : 0, want ? 1 : 0);
-    }
-
-    private static long readOf(EpochVolume v, int file, int place) {
-        try {
-            return v.read(file, place);
-        } catch (IllegalStateException e) {
-            return ILLEGAL_STATE;
-        } catch (NoSuchElementException e) {
-            return NO_SUCH;
-        }
-    }
-
-    /** The first words of a block, as it is stable. */
-    private static void block(EpochVolume v, int device, int b, int... words) {
-        for (int w = 0; w < 16; w++) {
-            due("word(" + device + ", " + b + ", " + w + ", true)", v.word(device, b, w, true), w < words.length ? words[w] : 0);
-        }
-    }
-
-    private static void counts(EpochVolume v, int from, int... want) {
-        for (int k = 0; k < want.length; k++) {
-            due("count(" + (from + k) + ")", v.count(from + k), want[k]);
-        }
-    }
-
-    /** Kind, block, epoch, mark of a slot. */
-    private static void slotIs(EpochVolume v, int i, int... want) {
-        for (int what = 0; what < want.length; what++) {
-            due("slot(" + i + ", " + what + ")", v.slot(i, what), want[what]);
-        }
-    }
-
-    private static EpochVolume big() {
-        return new EpochVolume(8, 8, 8);
-    }
-
-    /** File 1, name 3, with one int 5, all on the disc, which is mounted without the flash. */
-    private static EpochVolume onDisc() {
-        EpochVolume v = big();
-        v.make(0, 3, false);
-        v.write(1, 0, 5);
-        v.home();
-        for (int n = 0; n < 4; n++) {
-            v.land();
-        }
-        v.crash(0);
-        due("mount(false, 0, 0)", v.mount(false, 0, 0), 4);
-        return v;
-    }
-
-    /** Files 1 to 4 in the root; 1 to 3 have all their blocks, none is left. */
-    private static EpochVolume fullOfBlocks() {
-        EpochVolume v = big();
-        for (int f = 1; f <= 4; f++) {
-            due("make", v.make(0, f, false), f);
-        }
-        for (int f = 1; f <= 3; f++) {
-            for (int k = 0; k < 20; k++) {
-                due("write", v.write(f, 16 * k, 1), 16 * k + 1);
-            }
-        }
-        due("count(11)", v.count(11), 64);
-        return v;
-    }
-
+public final class PromisesTest extends Check {
     public static void main(String[] args) {
         newObject();
         nearestNumbers();
@@ -126,15 +41,12 @@ public final class PromisesTest {
         wordsOfDevices();
         countsOfAll();
         downAnswers();
-        System.out.println(wrong == 0 ? "all promises hold" : wrong + " answers are not as due");
-        if (wrong != 0) {
-            System.exit(1);
-        }
+        end("all promises hold");
     }
 
     private static void newObject() {
         part = "1, a new object";
-        EpochVolume v = new EpochVolume(3, 4, 2);
+        Twin v = new Twin(3, 4, 2);
         counts(v, 0, 1, 1, 0, 1, 0, 0, 1, 0, 0, 28, 1, 0, 0, 0, 0, 0, 0, 0);
         block(v, DISC, 0, 1);
         block(v, DISC, 1);
@@ -156,24 +68,24 @@ public final class PromisesTest {
         int[] low = {0, -1, Integer.MIN_VALUE};
         int[] high = {9, 100, Integer.MAX_VALUE};
         for (int k = 0; k < 3; k++) {
-            EpochVolume v = new EpochVolume(low[k], low[k], low[k]);
+            Twin v = new Twin(low[k], low[k], low[k]);
             due("slot(1, 0)", v.slot(1, 0), 0);
             due("slot(2, 0)", v.slot(2, 0), NONE);
             due("word(1, 51)", v.word(FLASH, 51, 0, false), 0);
             due("word(1, 52)", v.word(FLASH, 52, 0, false), NO_WORD);
-            v = new EpochVolume(high[k], high[k], high[k]);
+            v = new Twin(high[k], high[k], high[k]);
             due("slot(63, 0)", v.slot(63, 0), 0);
             due("slot(64, 0)", v.slot(64, 0), NONE);
             due("slot(56, 4)", v.slot(56, 4), 1);
             due("word(1, 113)", v.word(FLASH, 113, 15, false), 0);
             due("word(1, 114)", v.word(FLASH, 114, 0, false), NO_WORD);
-            waitingEpochs(new EpochVolume(8, 8, low[k]), 1);
-            waitingEpochs(new EpochVolume(8, 8, high[k]), 8);
-            waitingEpochs(new EpochVolume(8, 8, 3), 3);
+            waitingEpochs(new Twin(8, 8, low[k]), 1);
+            waitingEpochs(new Twin(8, 8, high[k]), 8);
+            waitingEpochs(new Twin(8, 8, 3), 3);
         }
     }
 
-    private static void waitingEpochs(EpochVolume v, int want) {
+    private static void waitingEpochs(Twin v, int want) {
         for (int n = 0; n < 5; n++) {
             v.make(0, n + 1, false);
             due("sync()", v.sync(), 2 * n + 2);
@@ -184,7 +96,7 @@ public final class PromisesTest {
 
     private static void makes() {
         part = "2, make";
-        EpochVolume v = big();
+        Twin v = big();
         due("make(0, 5, false)", v.make(0, 5, false), 1);
         due("make(0, 6, true)", v.make(0, 6, true), 2);
         due("make(2, 5, true)", v.make(2, 5, true), 3);
@@ -211,7 +123,7 @@ public final class PromisesTest {
 
     private static void makeIsFull() {
         part = "2, make: FULL";
-        EpochVolume v = big();
+        Twin v = big();
         for (int i = 1; i < 24; i++) {
             due("make", v.make(0, 100 + i, i % 2 == 0), i);
         }
@@ -237,7 +149,7 @@ public final class PromisesTest {
 
     private static void finds() {
         part = "3, find";
-        EpochVolume v = big();
+        Twin v = big();
         v.make(0, 5, true);
         v.make(1, 6, false);
         due("find(0, 5)", v.find(0, 5), 1);
@@ -254,27 +166,27 @@ public final class PromisesTest {
 
     private static void writes() {
         part = "4, write";
-        EpochVolume v = big();
+        Twin v = big();
         v.make(0, 5, false);
         v.make(0, 6, true);
         v.sync();
         due("write(1, 3, 7)", v.write(1, 3, 7), 4);
         counts(v, 7, 3);
         due("write(1, 1, 8)", v.write(1, 1, 8), 4);
-        due("read(1, 3)", readOf(v, 1, 3), 7);
-        due("read(1, 1)", readOf(v, 1, 1), 8);
-        due("read(1, 0)", readOf(v, 1, 0), 0);
+        due("read(1, 3)", v.read(1, 3), 7);
+        due("read(1, 1)", v.read(1, 1), 8);
+        due("read(1, 0)", v.read(1, 0), 0);
         v.sync();
         due("write(1, 1, 8)", v.write(1, 1, 8), 4);
         counts(v, 7, 1);
         due("write(1, 319, -3)", v.write(1, 319, -3), 320);
-        due("read(1, 319)", readOf(v, 1, 319), -3);
+        due("read(1, 319)", v.read(1, 319), -3);
         due("inode(1, 3)", v.inode(1, 3), 3);
         counts(v, 7, 5);
         v.sync();
         due("write(1, 100, MIN)", v.write(1, 100, Integer.MIN_VALUE), 320);
         counts(v, 7, 3);
-        due("read(1, 100)", readOf(v, 1, 100), Integer.MIN_VALUE);
+        due("read(1, 100)", v.read(1, 100), Integer.MIN_VALUE);
         due("write(1, 320, 1)", v.write(1, 320, 1), WRONG);
         due("write(1, -1, 1)", v.write(1, -1, 1), WRONG);
         due("write(0, 0, 1)", v.write(0, 0, 1), WRONG);
@@ -287,7 +199,7 @@ public final class PromisesTest {
 
     private static void writeIsFull() {
         part = "4, write: FULL";
-        EpochVolume v = fullOfBlocks();
+        Twin v = fullOfBlocks();
         due("inode(3, 3)", v.inode(3, 3), 21);
         due("write(4, 0, 1)", v.write(4, 0, 1), FULL);
         due("write(3, 319, 1)", v.write(3, 319, 1), 320);
@@ -305,48 +217,48 @@ public final class PromisesTest {
 
     private static void reads() {
         part = "5, read";
-        EpochVolume v = onDisc();
+        Twin v = onDisc();
         due("attach()", v.attach(), 0);
-        due("read(1, 0)", readOf(v, 1, 0), 5);
+        due("read(1, 0)", v.read(1, 0), 5);
         slotIs(v, 24, 1, 43, 0, 0, 0);
         due("slot(25, 4)", v.slot(25, 4), 1);
         block(v, FLASH, 74);
         due("word(1, 74, 0, false)", v.word(FLASH, 74, 0, false), 5);
         due("count(13)", v.count(13), 1);
-        due("read(1, 15)", readOf(v, 1, 15), 0);
-        due("read(1, 16)", readOf(v, 1, 16), 0);
-        due("read(1, 319)", readOf(v, 1, 319), 0);
+        due("read(1, 15)", v.read(1, 15), 0);
+        due("read(1, 16)", v.read(1, 16), 0);
+        due("read(1, 319)", v.read(1, 319), 0);
         due("count(13)", v.count(13), 1);
-        due("read(1, 0)", readOf(v, 1, 0), 5);
+        due("read(1, 0)", v.read(1, 0), 5);
         slotIs(v, 24, 1, 43, 0, 1);
         due("count(13)", v.count(13), 1);
-        due("read(1, 320)", readOf(v, 1, 320), NO_SUCH);
-        due("read(1, -1)", readOf(v, 1, -1), NO_SUCH);
-        due("read(0, 0)", readOf(v, 0, 0), NO_SUCH);
-        due("read(2, 0)", readOf(v, 2, 0), NO_SUCH);
-        due("read(-1, 0)", readOf(v, -1, 0), NO_SUCH);
-        due("read(24, 0)", readOf(v, 24, 0), NO_SUCH);
+        due("read(1, 320)", v.read(1, 320), NO_SUCH);
+        due("read(1, -1)", v.read(1, -1), NO_SUCH);
+        due("read(0, 0)", v.read(0, 0), NO_SUCH);
+        due("read(2, 0)", v.read(2, 0), NO_SUCH);
+        due("read(-1, 0)", v.read(-1, 0), NO_SUCH);
+        due("read(24, 0)", v.read(24, 0), NO_SUCH);
         v.write(1, 0, 6);
-        due("read(1, 0), changed", readOf(v, 1, 0), 6);
+        due("read(1, 0), changed", v.read(1, 0), 6);
         v.sync();
-        due("read(1, 0), kept", readOf(v, 1, 0), 6);
+        due("read(1, 0), kept", v.read(1, 0), 6);
         slotIs(v, 24, 1, 43, 0, 1);
     }
 
     /** From the size on 0 is answered, but the block of such an int is READ as any other, if it is there. */
     private static void readsFromSizeOn() {
         part = "5, read from the size on";
-        EpochVolume v = onDisc();
+        Twin v = onDisc();
         v.attach();
         int writes = v.count(15);
-        due("read(1, 16), no block", readOf(v, 1, 16), 0);
-        due("read(1, 319), no block", readOf(v, 1, 319), 0);
+        due("read(1, 16), no block", v.read(1, 16), 0);
+        due("read(1, 319), no block", v.read(1, 319), 0);
         due("count(15)", v.count(15), writes);
         slotIs(v, 24, 0, NONE, 0, 0, 1);
-        due("read(1, 1)", readOf(v, 1, 1), 0);
+        due("read(1, 1)", v.read(1, 1), 0);
         due("count(15)", v.count(15), writes + 1);
         slotIs(v, 24, 1, 43, 0, 0, 0);
-        due("read(1, 15)", readOf(v, 1, 15), 0);
+        due("read(1, 15)", v.read(1, 15), 0);
         due("count(15)", v.count(15), writes + 1);
         slotIs(v, 24, 1, 43, 0, 1, 0);
         v = onDisc();
@@ -354,35 +266,35 @@ public final class PromisesTest {
         v.write(1, 0, 6);
         writes = v.count(15);
         // the slot is marked no more than it was by the write's own reading
-        due("read(1, 15), changed", readOf(v, 1, 15), 0);
+        due("read(1, 15), changed", v.read(1, 15), 0);
         slotIs(v, 24, 1, 43, 0, 0, 0);
         due("count(15)", v.count(15), writes);
         v = onDisc();
         v.attach();
         v.limit(1, 0);
-        due("read(1, 16), limited, no block", readOf(v, 1, 16), 0);
-        due("read(1, 15), limited", readOf(v, 1, 15), ILLEGAL_STATE);
+        due("read(1, 16), limited, no block", v.read(1, 16), 0);
+        due("read(1, 15), limited", v.read(1, 15), ILLEGAL_STATE);
         due("count(0)", v.count(0), 0);
     }
 
     private static void readGoesDown() {
         part = "5, read goes down";
-        EpochVolume v = onDisc();
+        Twin v = onDisc();
         v.attach();
         v.limit(1, 0);
-        due("read(1, 0)", readOf(v, 1, 0), ILLEGAL_STATE);
+        due("read(1, 0)", v.read(1, 0), ILLEGAL_STATE);
         due("count(0)", v.count(0), 0);
-        due("read(1, 0)", readOf(v, 1, 0), ILLEGAL_STATE);
-        due("read(-1, 0)", readOf(v, -1, 0), ILLEGAL_STATE);
+        due("read(1, 0)", v.read(1, 0), ILLEGAL_STATE);
+        due("read(-1, 0)", v.read(-1, 0), ILLEGAL_STATE);
         // 6 and 2 of the commit, 5 and 2 of what came home, 1 of attach
         due("count(15)", v.count(15), 6 + 2 + 5 + 2 + 1);
         due("mount(true, 0, 0)", v.mount(true, 0, 0), 4);
-        due("read(1, 0)", readOf(v, 1, 0), 5);
+        due("read(1, 0)", v.read(1, 0), 5);
     }
 
     private static void cuts() {
         part = "6, cut";
-        EpochVolume v = big();
+        Twin v = big();
         v.make(0, 5, false);
         for (int p : new int[] {0, 15, 16, 20, 31, 64, 80}) {
             v.write(1, p, 7);
@@ -413,9 +325,9 @@ public final class PromisesTest {
         due("cut(1, 20)", v.cut(1, 20), 0);
         counts(v, 7, 2);
         due("write(1, 31, 1)", v.write(1, 31, 1), 32);
-        due("read(1, 16)", readOf(v, 1, 16), 7);
-        due("read(1, 20)", readOf(v, 1, 20), 0);
-        due("read(1, 31)", readOf(v, 1, 31), 1);
+        due("read(1, 16)", v.read(1, 16), 7);
+        due("read(1, 20)", v.read(1, 20), 0);
+        due("read(1, 31)", v.read(1, 31), 1);
         v.sync();
         due("cut(1, 0)", v.cut(1, 0), 0);
         counts(v, 7, 2);
@@ -424,12 +336,12 @@ public final class PromisesTest {
         due("count(11)", v.count(11), 1);
         due("write(1, 0, 4)", v.write(1, 0, 4), 1);
         due("write(1, 15, 4)", v.write(1, 15, 4), 16);
-        due("read(1, 1)", readOf(v, 1, 1), 0);
+        due("read(1, 1)", v.read(1, 1), 0);
     }
 
     private static void cutReadsItsBlock() {
         part = "6, cut reads its block";
-        EpochVolume v = onDisc();
+        Twin v = onDisc();
         v.write(1, 15, 4);
         v.home();
         v.attach();
@@ -445,14 +357,14 @@ public final class PromisesTest {
         due("count(15)", v.count(15), acts + 1);
         slotIs(v, 24, 1, 43, 0, 0);
         counts(v, 7, 2);
-        due("read(1, 0)", readOf(v, 1, 0), 5);
+        due("read(1, 0)", v.read(1, 0), 5);
         due("write(1, 15, 1)", v.write(1, 15, 1), 16);
-        due("read(1, 7)", readOf(v, 1, 7), 0);
+        due("read(1, 7)", v.read(1, 7), 0);
     }
 
     private static void removes() {
         part = "7, remove";
-        EpochVolume v = big();
+        Twin v = big();
         v.make(0, 5, false);
         v.make(0, 6, true);
         v.make(2, 7, false);
@@ -500,7 +412,7 @@ public final class PromisesTest {
 
     private static void moves() {
         part = "8, move";
-        EpochVolume v = big();
+        Twin v = big();
         v.make(0, 1, true);
         v.make(1, 2, true);
         v.make(2, 3, true);
@@ -542,7 +454,7 @@ public final class PromisesTest {
 
     private static void moveIsFull() {
         part = "8, move: FULL";
-        EpochVolume v = fullOfBlocks();
+        Twin v = fullOfBlocks();
         v.make(0, 5, true);
         due("move(0, 4, 5, 4)", v.move(0, 4, 5, 4), FULL);
         due("inode(5, 1)", v.inode(5, 1), 0);
@@ -560,7 +472,7 @@ public final class PromisesTest {
 
     private static void inodes() {
         part = "9, inode";
-        EpochVolume v = big();
+        Twin v = big();
         v.make(0, 5, false);
         v.make(0, 6, true);
         v.make(2, 6, true);
@@ -582,7 +494,7 @@ public final class PromisesTest {
 
     private static void entries() {
         part = "10, entry";
-        EpochVolume v = big();
+        Twin v = big();
         v.make(0, 5, false);
         v.make(0, 6, true);
         due("entry(0, 1, 0)", v.entry(0, 1, 0), 6);
@@ -604,7 +516,7 @@ public final class PromisesTest {
 
     private static void syncs() {
         part = "11, sync";
-        EpochVolume v = big();
+        Twin v = big();
         due("sync()", v.sync(), 0);
         counts(v, 12, 0, 0, 0, 0, 0, 0);
         v.make(0, 2, false);
@@ -625,7 +537,7 @@ public final class PromisesTest {
         // volume block 6, slot 48, is the next of the journal
         block(v, FLASH, 98, 1, 2, 2, 31, 42, 0, 0, 0, 0, 0, 0, 0, 0, 0, 0, 1 + 2 * 4);
         counts(v, 6, 3, 0, 4, 19);
-        EpochVolume d = onDisc();
+        Twin d = onDisc();
         due("write(1, 0, 3)", d.write(1, 0, 3), 1);
         int writes = d.count(14);
         int flushes = d.count(16);
@@ -639,7 +551,7 @@ public final class PromisesTest {
 
     private static void commitsAhead() {
         part = "11, commits ahead of a call";
-        EpochVolume v = big();
+        Twin v = big();
         v.make(0, 5, false);
         v.make(0, 6, true);
         for (int k = 0; k < 3; k++) {
@@ -652,12 +564,12 @@ public final class PromisesTest {
         v.write(1, 48, 1);
         counts(v, 6, 1, 8);
         due("find(0, 5)", v.find(0, 5), 1);
-        due("read(1, 48)", readOf(v, 1, 48), 1);
+        due("read(1, 48)", v.read(1, 48), 1);
         counts(v, 6, 1, 8);
         due("write(7, 0, 1)", v.write(7, 0, 1), WRONG);
         counts(v, 6, 2, 0, 8);
         for (int call = 0; call < 4; call++) {
-            EpochVolume w = big();
+            Twin w = big();
             w.make(0, 5, false);
             w.write(1, 0, 1);
             w.write(1, 64, 9);
@@ -673,7 +585,7 @@ public final class PromisesTest {
 
     private static void journalIsBroughtHome() {
         part = "11, the journal is brought home";
-        EpochVolume v = big();
+        Twin v = big();
         v.make(0, 5, false);
         v.write(1, 0, 1);
         v.sync();
@@ -697,13 +609,13 @@ public final class PromisesTest {
         block(v, DISC, 21, 100);
         due("crash(0)", v.crash(0), true);
         due("mount(true, 0, 0)", v.mount(true, 0, 0), 22);
-        due("read(1, 0)", readOf(v, 1, 0), 100);
+        due("read(1, 0)", v.read(1, 0), 100);
         counts(v, 6, 10, 0, 0, 28);
     }
 
     private static void lands() {
         part = "12, land";
-        EpochVolume v = big();
+        Twin v = big();
         due("land()", v.land(), 0);
         v.make(0, 3, false);
         due("land()", v.land(), 0);
@@ -724,7 +636,7 @@ public final class PromisesTest {
         block(v, DISC, 3, 2, 1);
         due("land()", v.land(), 0);
         due("count(16)", v.count(16), 8);
-        EpochVolume d = onDisc();
+        Twin d = onDisc();
         d.write(1, 0, 1);
         d.sync();
         due("land(), without the flash", d.land(), 0);
@@ -732,7 +644,7 @@ public final class PromisesTest {
 
     private static void homes() {
         part = "13, home";
-        EpochVolume v = big();
+        Twin v = big();
         due("home()", v.home(), 0);
         counts(v, 14, 0, 0, 0, 0);
         v.make(0, 3, false);
@@ -750,7 +662,7 @@ public final class PromisesTest {
         v.sync();
         v.write(1, 16, 1);
         due("home()", v.home(), 4);
-        EpochVolume d = onDisc();
+        Twin d = onDisc();
         d.write(1, 0, 8);
         due("home(), without the flash", d.home(), 1);
         block(d, DISC, 62, 8);
@@ -759,7 +671,7 @@ public final class PromisesTest {
 
     private static void limits() {
         part = "14, limit";
-        EpochVolume v = big();
+        Twin v = big();
         due("limit(0, 0)", v.limit(0, 0), false);
         due("limit(-1, 0)", v.limit(-1, 0), false);
         due("limit(1001, 0)", v.limit(1001, 0), false);
@@ -787,7 +699,7 @@ public final class PromisesTest {
     private static void limitsAtEachAct() {
         part = "14, a limit at each act";
         for (int n = 1; n <= 12; n++) {
-            EpochVolume v = big();
+            Twin v = big();
             v.make(0, 3, false);
             v.limit(n, n % 2 == 0 ? 0 : -1);
             // 4 writes, flush, record, flush, a write, flush, record, flush
@@ -809,16 +721,16 @@ public final class PromisesTest {
 
     private static void crashes() {
         part = "15, crash";
-        EpochVolume v = onDisc();
+        Twin v = onDisc();
         v.attach();
-        readOf(v, 1, 0);
+        v.read(1, 0);
         v.write(1, 0, 9);
         due("crash(0)", v.crash(0), true);
         due("crash(0)", v.crash(0), false);
         counts(v, 0, 0, 0, 4, NONE, NONE, NONE, NONE, NONE, NONE, NONE, NONE, NONE, 0, 0);
         block(v, FLASH, 74);
         due("mount(true, 0, 0)", v.mount(true, 0, 0), 4);
-        due("read(1, 0), not committed", readOf(v, 1, 0), 5);
+        due("read(1, 0), not committed", v.read(1, 0), 5);
         slotIs(v, 24, 1, 43, 0, 0);
         due("crash(1)", v.crash(1), true);
         block(v, FLASH, 74, 5);
@@ -829,7 +741,7 @@ public final class PromisesTest {
     private static void pendingWrites() {
         part = "15, pending writes";
         // one set of two slots: each read of another block is one more pending write
-        EpochVolume v = new EpochVolume(1, 2, 1);
+        Twin v = new Twin(1, 2, 1);
         v.make(0, 3, false);
         for (int k = 0; k < 4; k++) {
             v.write(1, 16 * k, 5 + k);
@@ -841,11 +753,11 @@ public final class PromisesTest {
         v.crash(0);
         v.mount(true, 0, 0);
         for (int n = 0; n < 64; n++) {
-            due("read", readOf(v, 1, 16 * (n % 4)), 5 + n % 4);
+            due("read", v.read(1, 16 * (n % 4)), 5 + n % 4);
             due("count(13)", v.count(13), n + 1);
         }
         int before = v.word(FLASH, 51, 0, true);
-        due("read", readOf(v, 1, 0), 5);
+        due("read", v.read(1, 0), 5);
         due("count(13)", v.count(13), 64);
         // the first one, 5 in slot 0, became stable; slot 1 is as it was
         block(v, FLASH, 50, 5);
@@ -856,7 +768,7 @@ public final class PromisesTest {
         block(v, FLASH, 51, 8);
         block(v, FLASH, 50, 7);
         due("count(13)", v.count(13), 0);
-        EpochVolume d = onDisc();
+        Twin d = onDisc();
         d.write(1, 0, 9);
         d.limit(3, 5);
         due("sync()", d.sync(), DOWN);
@@ -867,7 +779,7 @@ public final class PromisesTest {
 
     private static void loses() {
         part = "16, lose";
-        EpochVolume v = big();
+        Twin v = big();
         v.make(0, 3, false);
         v.sync();
         v.land();
@@ -887,7 +799,7 @@ public final class PromisesTest {
         due("lose(-1), the power goes", v.lose(-1), true);
         due("mount(false, 0, 0)", v.mount(false, 0, 0), 1);
         due("find(0, 3)", v.find(0, 3), NONE);
-        EpochVolume w = big();
+        Twin w = big();
         w.make(0, 3, false);
         w.sync();
         w.crash(0);
@@ -899,7 +811,7 @@ public final class PromisesTest {
 
     private static void mounts() {
         part = "17, mount";
-        EpochVolume v = big();
+        Twin v = big();
         due("mount(true, 0, 0)", v.mount(true, 0, 0), NONE);
         due("mount(false, 0, 0)", v.mount(false, 0, 0), NONE);
         v.make(0, 3, false);
@@ -914,7 +826,7 @@ public final class PromisesTest {
         block(v, FLASH, 27, 2, 2, 1, 1, 40, 5);
         block(v, FLASH, 28, 2, 3, 1, 4, 0, 8, 9, 9, 48, 6, 56, 7);
         counts(v, 0, 1, 1, 0, 7, 6, 0, 3, 0, 0, 28, 2, 2, 0, 0);
-        due("read(1, 0)", readOf(v, 1, 0), 7);
+        due("read(1, 0)", v.read(1, 0), 7);
         slotIs(v, 8, 2, 1, 1, 0);
         v.crash(0);
         due("mount(false, 0, 0)", v.mount(false, 0, 0), 0);
@@ -931,7 +843,7 @@ public final class PromisesTest {
 
     private static void mountWithLimit() {
         part = "17, mount with a limit";
-        EpochVolume v = big();
+        Twin v = big();
         v.make(0, 3, false);
         v.sync();
         v.crash(0);
@@ -970,7 +882,7 @@ public final class PromisesTest {
         // 4 copies, the list, flush, HEAD, flush, 4 blocks, flush, HEAD, flush
         for (int n = 1; n <= 15; n++) {
             for (int keep = 0; keep < 2; keep++) {
-                EpochVolume v = big();
+                Twin v = big();
                 v.make(0, 3, false);
                 v.sync();
                 v.limit(n, -keep);
@@ -996,7 +908,7 @@ public final class PromisesTest {
 
     private static void halvesChange() {
         part = "PART 2, the halves change";
-        EpochVolume v = new EpochVolume(8, 8, 2);
+        Twin v = new Twin(8, 8, 2);
         v.make(0, 3, false);
         v.write(1, 0, 1);
         v.sync();
@@ -1026,12 +938,12 @@ public final class PromisesTest {
         v.crash(0);
         due("mount(true, 0, 0)", v.mount(true, 0, 0), 28);
         block(v, FLASH, 0, 3, 1);
-        due("read(1, 0)", readOf(v, 1, 0), 4);
+        due("read(1, 0)", v.read(1, 0), 4);
     }
 
     private static void longEpochs() {
         part = "PART 2, an epoch of 16 slots";
-        EpochVolume v = big();
+        Twin v = big();
         v.make(0, 3, false);
         v.sync();
         for (int k = 0; k < 12; k++) {
@@ -1051,7 +963,7 @@ public final class PromisesTest {
 
     /** 17 blocks come home at once: an epoch is closed by the 17th, with three records. */
     private static void sixteen() {
-        EpochVolume v = big();
+        Twin v = big();
         for (int n = 1; n <= 10; n++) {
             v.make(0, n, false);
         }
@@ -1078,12 +990,12 @@ public final class PromisesTest {
         }
         v.crash(0);
         due("mount(true, 0, 0)", v.mount(true, 0, 0), open + 2);
-        due("read(10, 0)", readOf(v, 10, 0), 7);
+        due("read(10, 0)", v.read(10, 0), 7);
     }
 
     private static void attaches() {
         part = "18, attach";
-        EpochVolume v = big();
+        Twin v = big();
         due("attach()", v.attach(), WRONG);
         v = onDisc();
         v.write(1, 0, 6);
@@ -1102,12 +1014,12 @@ public final class PromisesTest {
             slotIs(v, i, 0, NONE, 0, 0, i % 8 == 0 ? 1 : 0);
         }
         due("attach()", v.attach(), WRONG);
-        due("read(1, 0), changed", readOf(v, 1, 0), 7);
+        due("read(1, 0), changed", v.read(1, 0), 7);
         due("sync()", v.sync(), 6);
         block(v, FLASH, 1, 1, 5, 1, 2, 32, 4, 40, 5);
         v.crash(0);
         due("mount(true, 0, 0)", v.mount(true, 0, 0), 8);
-        due("read(1, 0)", readOf(v, 1, 0), 7);
+        due("read(1, 0)", v.read(1, 0), 7);
         v.crash(0);
         due("attach()", v.attach(), DOWN);
     }
@@ -1115,7 +1027,7 @@ public final class PromisesTest {
     private static void attachCutOff() {
         part = "18, attach is cut off";
         for (int n = 1; n <= 4; n++) {
-            EpochVolume v = onDisc();
+            Twin v = onDisc();
             v.limit(n, 0);
             due("attach()", v.attach(), DOWN);
             due("count(0)", v.count(0), 0);
@@ -1124,7 +1036,7 @@ public final class PromisesTest {
             block(v, DISC, 0, 2);
             due("mount(true, 0, 0)", v.mount(true, 0, 0), NONE);
             due("mount(false, 0, 0)", v.mount(false, 0, 0), 4);
-            due("read(1, 0)", readOf(v, 1, 0), 5);
+            due("read(1, 0)", v.read(1, 0), 5);
             due("attach()", v.attach(), 0);
             block(v, FLASH, 0, 1, 4);
         }
@@ -1132,7 +1044,7 @@ public final class PromisesTest {
 
     private static void slots() {
         part = "19, slot";
-        EpochVolume v = new EpochVolume(2, 3, 2);
+        Twin v = new Twin(2, 3, 2);
         due("slot(5, 0)", v.slot(5, 0), 0);
         due("slot(6, 0)", v.slot(6, 0), NONE);
         due("slot(-1, 0)", v.slot(-1, 0), NONE);
@@ -1159,7 +1071,7 @@ public final class PromisesTest {
     private static void handsAndMarks() {
         part = "PART 2, hands and marks";
         // one set of 3 slots, a file with blocks 43 to 46 on the disc
-        EpochVolume v = new EpochVolume(1, 3, 1);
+        Twin v = new Twin(1, 3, 1);
         v.make(0, 3, false);
         for (int k = 0; k < 4; k++) {
             v.write(1, 16 * k, 5 + k);
@@ -1171,20 +1083,20 @@ public final class PromisesTest {
         v.crash(0);
         v.mount(true, 0, 0);
         for (int k = 0; k < 3; k++) {
-            readOf(v, 1, 16 * k);
+            v.read(1, 16 * k);
             slotIs(v, k, 1, 43 + k, 0, 0);
         }
         due("slot(0, 4)", v.slot(0, 4), 1);
-        readOf(v, 1, 0);
-        readOf(v, 1, 32);
-        readOf(v, 1, 48);
+        v.read(1, 0);
+        v.read(1, 32);
+        v.read(1, 48);
         // slot 0 lost its mark, slot 1 had none
         slotIs(v, 0, 1, 43, 0, 0, 0);
         slotIs(v, 1, 1, 46, 0, 0, 0);
         slotIs(v, 2, 1, 45, 0, 1, 1);
-        readOf(v, 1, 0);
-        readOf(v, 1, 48);
-        readOf(v, 1, 16);
+        v.read(1, 0);
+        v.read(1, 48);
+        v.read(1, 16);
         // all had marks: the second time round slot 2 is found
         slotIs(v, 0, 1, 43, 0, 0, 1);
         slotIs(v, 1, 1, 46, 0, 0, 0);
@@ -1198,7 +1110,7 @@ public final class PromisesTest {
 
     /** When all slots of a set are dirty a read finds none: nothing is written. */
     private static void allDirty() {
-        EpochVolume v = new EpochVolume(1, 2, 8);
+        Twin v = new Twin(1, 2, 8);
         v.make(0, 3, false);
         v.write(1, 0, 5);
         v.home();
@@ -1212,14 +1124,14 @@ public final class PromisesTest {
         due("slot(1, 0)", v.slot(1, 0), 2);
         int writes = v.count(15);
         int hand = v.slot(0, 4);
-        due("read(1, 0)", readOf(v, 1, 0), 5);
+        due("read(1, 0)", v.read(1, 0), 5);
         due("count(15)", v.count(15), writes);
         due("slot(0, 4)", v.slot(0, 4), hand);
     }
 
     private static void newestSlots() {
         part = "PART 2, a block in two slots";
-        EpochVolume v = big();
+        Twin v = big();
         v.make(0, 3, false);
         v.write(1, 0, 5);
         v.home();
@@ -1229,7 +1141,7 @@ public final class PromisesTest {
         slotIs(v, 25, 2, 43, 3, 1);
         slotIs(v, 26, 2, 3, 6, 1);
         slotIs(v, 27, 2, 43, 7, 1);
-        due("read(1, 0)", readOf(v, 1, 0), 6);
+        due("read(1, 0)", v.read(1, 0), 6);
         for (int e = 1; e <= 3; e++) {
             due("land()", v.land(), e);
         }
@@ -1237,7 +1149,7 @@ public final class PromisesTest {
         block(v, DISC, 62, 5);
         slotIs(v, 25, 0, NONE, 0, 0);
         slotIs(v, 27, 2, 43, 7, 1);
-        due("read(1, 0)", readOf(v, 1, 0), 6);
+        due("read(1, 0)", v.read(1, 0), 6);
         for (int e = 4; e <= 8; e++) {
             due("land()", v.land(), e);
         }
@@ -1252,7 +1164,7 @@ public final class PromisesTest {
 
     private static void wordsOfDevices() {
         part = "20, word";
-        EpochVolume v = new EpochVolume(1, 2, 1);
+        Twin v = new Twin(1, 2, 1);
         due("word(0, 124, 15, true)", v.word(DISC, 124, 15, true), 0);
         due("word(0, 125, 0, true)", v.word(DISC, 125, 0, true), NO_WORD);
         due("word(0, -1, 0, true)", v.word(DISC, -1, 0, true), NO_WORD);
@@ -1262,9 +1174,9 @@ public final class PromisesTest {
         due("word(-1, 0, 0, true)", v.word(-1, 0, 0, true), NO_WORD);
         due("word(1, MAX, 0, true)", v.word(FLASH, Integer.MAX_VALUE, 0, true), NO_WORD);
         due("word(1, 0, MIN, true)", v.word(FLASH, 0, Integer.MIN_VALUE, true), NO_WORD);
-        EpochVolume w = onDisc();
+        Twin w = onDisc();
         w.attach();
-        readOf(w, 1, 0);
+        w.read(1, 0);
         due("word(1, 74, 0, false)", w.word(FLASH, 74, 0, false), 5);
         due("word(1, 74, 0, true)", w.word(FLASH, 74, 0, true), 0);
         w.crash(0);
@@ -1274,7 +1186,7 @@ public final class PromisesTest {
 
     private static void countsOfAll() {
         part = "21, count";
-        EpochVolume v = big();
+        Twin v = big();
         due("count(-1)", v.count(-1), NONE);
         due("count(18)", v.count(18), NONE);
         due("count(MAX)", v.count(Integer.MAX_VALUE), NONE);
@@ -1288,7 +1200,7 @@ public final class PromisesTest {
         v.land();
         counts(v, 0, 1, 1, 1, 3, 1, 0, 2, 0, 6, 20, 3, 3, 0, 0, 17, 11, 4, 4);
         // one set of two slots: the open epoch is closed as often as it is full
-        EpochVolume w = new EpochVolume(1, 2, 1);
+        Twin w = new Twin(1, 2, 1);
         w.make(0, 3, false);
         w.limit(2, 0);
         due("sync()", w.sync(), DOWN);
@@ -1297,13 +1209,13 @@ public final class PromisesTest {
 
     private static void downAnswers() {
         part = "while it is down";
-        EpochVolume v = big();
+        Twin v = big();
         v.make(0, 3, true);
         v.crash(0);
         due("make", v.make(0, 0, false), DOWN);
         due("find", v.find(9, 0), DOWN);
         due("write", v.write(9, -1, 0), DOWN);
-        due("read", readOf(v, 9, -1), ILLEGAL_STATE);
+        due("read", v.read(9, -1), ILLEGAL_STATE);
         due("cut", v.cut(9, -1), DOWN);
         due("remove", v.remove(9, 0), DOWN);
         due("move", v.move(9, 0, 9, 0), DOWN);
