@@ -11,7 +11,7 @@ import java.util.TreeSet;
  * library's collections: every answer, and now and then every word of both devices, must be the same.
  */
 public final class ModelTest {
-    private static final int RUNS = 1500;
+    private static final int RUNS = 1000;
     private static int wrong = 0;
 
     public static void main(String[] args) {

@@ -10,13 +10,21 @@ public final class MountEdgesTest extends Check {
         epochsAboveLanded();
         openEpoch();
         generationOfARecord();
+        generationWithoutRecords();
+        recordsAreTakenAlong();
+        lastPlacesOfAHalf();
+        slotsAreNoPlaces();
         noReadingOfPartTwo();
         identityRises();
         identityOfTheFlash();
         landingOfSixteen();
+        landingOfBlockZero();
         commitCutOff();
         commitCutOffWithoutFlash();
         fullJournal();
+        oldEndOfACommit();
+        wordsThatLookLikeTheJournal();
+        commitBehindACutOffOne();
         laterInPlaceOfEarlier();
         nothingInTheJournal();
         lostEpochs();
@@ -27,12 +35,13 @@ public final class MountEdgesTest extends Check {
         end("the edges of mounting hold");
     }
 
-    /** File 1, name 3, with two blocks, all on the disc; no slot has anything. */
+    /** File 1, name 3, with two blocks, 32 ints, all on the disc; no slot has anything. */
     private static Twin settled() {
         Twin v = big();
         v.make(0, 3, false);
         v.write(1, 0, 5);
         v.write(1, 16, 6);
+        v.write(1, 31, 6);
         v.home();
         landAll(v);
         v.crash(0);
@@ -294,6 +303,139 @@ public final class MountEdgesTest extends Check {
         due("slots of epoch 9", dirty, 3);
     }
 
+    private static void generationWithoutRecords() {
+        part = "17, PART 4: the half with the greater generation counts, with no record in it too";
+        Twin v = settled();
+        block(v, FLASH, 25, 2, 1);
+        block(v, FLASH, 26);
+        for (int n = 3; n <= 6; n++) {
+            v.crash(0);
+            due("mount", v.mount(true, 0, 0), 4);
+            block(v, FLASH, n % 2 == 1 ? 0 : 25, n, 1);
+            block(v, FLASH, n % 2 == 1 ? 25 : 0, n - 1, 1);
+        }
+    }
+
+    private static void recordsAreTakenAlong() {
+        part = "17, PART 2: records of each closed epoch, 6 pairs in each, each's last one a LAST one";
+        // changed blocks of the first commit: slots are one more
+        for (int n : new int[] {4, 5, 6, 11}) {
+            Twin v = big();
+            for (int f = 1; f <= 8; f++) {
+                v.make(0, 10 + f, false);
+            }
+            for (int f = 1; f <= 7; f++) {
+                v.write(f, 0, 5);
+            }
+            v.home();
+            landAll(v);
+            for (int f = 1; f <= Math.min(n, 7); f++) {
+                v.write(f, 0, 6);
+            }
+            if (n == 11) {
+                v.make(0, 9, false);
+            }
+            due("count(7)", v.count(7), n);
+            int epoch = v.count(3);
+            due("sync()", v.sync(), epoch + 1);
+            v.crash(0);
+            due("mount", v.mount(true, 0, 0), epoch + 3);
+            int slots = n + 1;
+            int place = 26;
+            for (int left = slots; left > 0; left -= 6) {
+                due("generation", v.word(FLASH, place, 0, true), 2);
+                due("epoch", v.word(FLASH, place, 1, true), epoch);
+                due("last", v.word(FLASH, place, 2, true), left <= 6 ? 1 : 0);
+                due("how many", v.word(FLASH, place, 3, true), Math.min(6, left));
+                place++;
+            }
+            due("the next epoch", v.word(FLASH, place, 1, true), epoch + 1);
+            due("its LAST one", v.word(FLASH, place, 2, true), 1);
+            due("behind these", v.word(FLASH, place + 1, 1, true), epoch + 2);
+        }
+    }
+
+    private static void lastPlacesOfAHalf() {
+        part = "17, PART 4: each of its 24 places, the last one too";
+        for (int half = 0; half < 2; half++) {
+            for (int epochs = 1; epochs <= 2; epochs++) {
+                Twin v = new Twin(8, 8, epochs);
+                v.make(0, 3, false);
+                v.write(1, 0, 1);
+                v.home();
+                landAll(v);
+                for (int n = 0; n < half; n++) {
+                    v.crash(0);
+                    v.mount(true, 0, 0);
+                }
+                int last = 25 * half + 24;
+                int n = 0;
+                for (; n < 20 && v.word(FLASH, last, 0, true) == 0; n++) {
+                    if (n == 5) {
+                        // else the journal would be too short between
+                        v.home();
+                    }
+                    v.write(1, 0, 50 + n);
+                    v.sync();
+                }
+                // the last (2, ..) is at the last place
+                int epoch = v.count(3) - 1;
+                due("the last place", v.word(FLASH, last, 1, true), epoch);
+                v.crash(0);
+                due("mount", v.mount(true, 0, 0) > epoch, true);
+                due("read(1, 0)", v.read(1, 0), 49 + n);
+            }
+        }
+    }
+
+    /** File 1's block 48 is in slot 0, behind half 1's places, with words like those of a record. */
+    private static Twin likeARecord(int epoch, int last) {
+        Twin v = big();
+        v.make(0, 3, false);
+        v.write(1, 0, 5);
+        int[] words = {2, epoch, last, 1, 5, 43};
+        for (int k = 0; k < 5; k++) {
+            v.write(1, 16 * k, 5);
+        }
+        for (int w = 0; w < 6; w++) {
+            v.write(1, 64 + w, words[w]);
+        }
+        v.home();
+        landAll(v);
+        v.crash(0);
+        v.mount(true, 0, 0);
+        v.read(1, 64);
+        slotIs(v, 0, 1, 48, 0, 0);
+        block(v, FLASH, 25, 2, 1);
+        return v;
+    }
+
+    private static void slotsAreNoPlaces() {
+        part = "17, PART 2: the 24 others are places, slots are behind them";
+        int open = likeARecord(0, 0).count(3);
+        for (int last = 0; last < 2; last++) {
+            // of an epoch that is closed, of one without a LAST record, of another one
+            for (int epoch : new int[] {open, open + 2, 1000}) {
+                Twin v = likeARecord(epoch, last);
+                v.write(1, 0, 6);
+                due("sync()", v.sync(), open + 1);
+                due("slot 0", v.word(FLASH, 50, 1, true), epoch);
+                for (int k = 0; k < 5; k++) {
+                    v.write(1, 16 * k + 1, 7);
+                }
+                v.write(1, 100, 7);
+                // 10 slots; then a record, and the power goes ahead of the LAST one
+                int slots = v.count(7) + 1;
+                v.limit(slots + 3, -1);
+                due("sync()", v.sync(), DOWN);
+                due("a record without its LAST one", v.word(FLASH, 28, 1, true), open + 2);
+                due("mount", v.mount(true, 0, 0), open + 3);
+                due("slot 5 is free", v.slot(5, 0), 0);
+                due("read(1, 0)", v.read(1, 0), 6);
+            }
+        }
+    }
+
     private static void noReadingOfPartTwo() {
         part = "17, PART 4: nothing is marked, no slot is found";
         Twin v = settled();
@@ -402,6 +544,30 @@ public final class MountEdgesTest extends Check {
         }
     }
 
+    private static void landingOfBlockZero() {
+        part = "17, PART 4: each block of the LIST, block 0 too";
+        Twin v = big();
+        v.make(0, 3, false);
+        v.home();
+        for (int e = 1; e <= 3; e++) {
+            due("land()", v.land(), e);
+        }
+        // a copy, the list, flush, HEAD, flush: cut off at the write of block 0
+        v.limit(6, 0);
+        due("land()", v.land(), DOWN);
+        block(v, DISC, 1, 1, 4, 1);
+        block(v, DISC, 19, 1);
+        v.lose(0);
+        int[] had = {v.count(14), v.count(16)};
+        due("mount(false)", v.mount(false, 0, 0), 4);
+        block(v, DISC, 19, 2);
+        // block 0, HEAD, the identity: with the sequence of block 0 the journal has nothing
+        due("writes", v.count(14), had[0] + 3);
+        due("flushes", v.count(16), had[1] + 3);
+        counts(v, 6, 2);
+        due("find(0, 3)", v.find(0, 3), 1);
+    }
+
     private static void commitCutOff() {
         part = "17, PART 4: the commits that have their (2, the sequence) are kept, with the flash";
         Twin v = settled();
@@ -478,6 +644,118 @@ public final class MountEdgesTest extends Check {
         due("mount", v.mount(true, 0, 0), 18);
         due("flushes", v.count(17), flushes + 2);
         due("count(6)", v.count(6), 9);
+    }
+
+    /** A commit that is cut off ahead of its (2, the sequence), which all epochs ahead of it were closed for. */
+    private static void cutAheadOfItsEnd(Twin v) {
+        int epoch = v.count(3);
+        int blocks = v.count(7) + 1;
+        // without the flash: the blocks, flush; with it: the slots, records, flush, LAST one, flush
+        v.limit(v.count(1) == 0 ? blocks + 2 : blocks + (blocks + 5) / 6 + 3, 0);
+        due("sync()", v.sync(), DOWN);
+        if (v.word(FLASH, 0, 0, true) != 0) {
+            due("mount", v.mount(true, 0, 0), epoch);
+        } else {
+            due("mount", v.mount(false, 0, 0) >= 0, true);
+        }
+    }
+
+    private static Twin onFlashOrDisc(boolean flash) {
+        Twin v = settled();
+        if (!flash) {
+            v.lose(0);
+            v.mount(false, 0, 0);
+        }
+        return v;
+    }
+
+    private static void oldEndOfACommit() {
+        part = "17, PART 4: (2, the sequence), not an older one's";
+        for (boolean flash : new boolean[] {true, false}) {
+            Twin v = onFlashOrDisc(flash);
+            v.write(1, 0, 7);
+            v.home();
+            landAll(v);
+            block(v, DISC, 22, 2, 2);
+            // as long as the one that is at home: behind its blocks is the old (2, 2)
+            v.write(1, 0, 8);
+            cutAheadOfItsEnd(v);
+            due("read(1, 0)", v.read(1, 0), 7);
+            due("count(6)", v.count(6), 3);
+        }
+    }
+
+    private static void wordsThatLookLikeTheJournal() {
+        part = "11, 17, PART 3: 0 for a word 0 that is 1 or 2: no file's words are taken for the journal's";
+        for (boolean flash : new boolean[] {true, false}) {
+            // block 44 is behind 43 in the journal: where the next commit's end would be
+            Twin v = onFlashOrDisc(flash);
+            v.write(1, 0, 7);
+            v.write(1, 16, 2);
+            v.write(1, 17, 3);
+            v.home();
+            landAll(v);
+            block(v, DISC, 22, 0, 3, 0, 0, 0, 0, 0, 0, 0, 0, 0, 0, 0, 0, 0, 6);
+            v.write(1, 0, 8);
+            cutAheadOfItsEnd(v);
+            due("read(1, 0), an end", v.read(1, 0), 7);
+            due("count(6)", v.count(6), 3);
+        }
+        for (boolean flash : new boolean[] {true, false}) {
+            Twin v = onFlashOrDisc(flash);
+            for (int k = 2; k <= 4; k++) {
+                v.write(1, 16 * k + 15, 5);
+            }
+            v.home();
+            // blocks 2 to 4 of the file: a beginning, a block and an end, where one behind the next commit would be
+            int next = v.count(6) + 2;
+            int[] places = {0, 16, 32, 33, 34, 35, 48, 64, 65};
+            int[] words = {7, 7, 1, next, 1, 43, 666, 2, next};
+            for (int k = 0; k < places.length; k++) {
+                v.write(1, places[k], words[k]);
+            }
+            due("count(7)", v.count(7), 5);
+            v.home();
+            landAll(v);
+            block(v, DISC, 23, 0, next, 1, 43, 0, 0, 0, 0, 0, 0, 0, 0, 0, 0, 0, 5);
+            block(v, DISC, 25, 0, next, 0, 0, 0, 0, 0, 0, 0, 0, 0, 0, 0, 0, 0, 5);
+            v.write(1, 0, 10);
+            v.sync();
+            v.crash(0);
+            v.mount(flash, 0, 0);
+            due("count(6), a beginning", v.count(6), next);
+            due("read(1, 0)", v.read(1, 0), 10);
+            due("read(1, 32)", v.read(1, 32), 1);
+            due("read(1, 48)", v.read(1, 48), 666);
+            due("read(1, 64)", v.read(1, 64), 2);
+        }
+    }
+
+    private static void commitBehindACutOffOne() {
+        part = "11, PART 2: what words are not told to be is 0, behind a commit that was cut off too";
+        for (int acts = 2; acts <= 4; acts++) {
+            Twin v = settled();
+            for (int w = 0; w < 16; w++) {
+                v.write(1, w, 90 + w);
+                v.write(1, 16 + w, 70 + w);
+            }
+            v.limit(acts, 0);
+            due("sync()", v.sync(), DOWN);
+            v.mount(true, 0, 0);
+            v.write(1, 0, 2);
+            for (int w = 1; w < 16; w++) {
+                v.write(1, w, 30 + w);
+            }
+            int sequence = v.count(6);
+            v.sync();
+            landAll(v);
+            block(v, DISC, 20, 1, sequence, 1, 43, 0, 0, 0, 0, 0, 0, 0, 0, 0, 0, 0, 2);
+            block(v, DISC, 21, 0, 31, 32, 33, 34, 35, 36, 37, 38, 39, 40, 41, 42, 43, 44, 45);
+            block(v, DISC, 22, 2, sequence);
+            v.home();
+            landAll(v);
+            block(v, DISC, 19, sequence + 1);
+        }
     }
 
     private static void laterInPlaceOfEarlier() {

@@ -4,6 +4,7 @@ public final class TreeEdgesTest extends Check {
         inodesOnTheDisc();
         namesOnTheDisc();
         mapOfUsedBlocks();
+        mapOfBlocksGivenBack();
         lowestBlockFirst();
         takenAnewIsZero();
         placesOfAFile();
@@ -15,10 +16,12 @@ public final class TreeEdgesTest extends Check {
         lastBlockForWrite();
         lastBlockForMake();
         lastBlockForMove();
+        placeThatIsGivenUp();
         lastInode();
         cutBounds();
         cutIsGone();
         cutOfAnEmptyFile();
+        cutOfBlocksThatAreNotThere();
         indirectBlock();
         readBounds();
         entryBounds();
@@ -112,6 +115,35 @@ public final class TreeEdgesTest extends Check {
         due("count(11)", v.count(11), 63);
         settle(v);
         block(v, DISC, 48, -1, MAX);
+    }
+
+    private static void mapOfBlocksGivenBack() {
+        part = "6, PART 3: bits 31 of word 0 and 0 of word 1 are of blocks 73 and 74";
+        Twin v = big();
+        v.make(0, 1, false);
+        v.make(0, 2, false);
+        for (int n = 0; n < 31; n++) {
+            v.write(1 + n / 20, 16 * (n % 20), 1);
+        }
+        settle(v);
+        // 42, 43 to 63 of file 1, 64 to 75 of file 2: blocks 8, 9, 10 are 73, 74, 75
+        block(v, DISC, 48, -1, 3);
+        v.cut(2, 160);
+        settle(v);
+        block(v, DISC, 48, -1, 1);
+        v.cut(2, 144);
+        settle(v);
+        block(v, DISC, 48, -1, 0);
+        v.cut(2, 128);
+        settle(v);
+        block(v, DISC, 48, MAX, 0);
+        due("count(11)", v.count(11), 31);
+        v.write(2, 159, 1);
+        settle(v);
+        block(v, DISC, 48, -1, 0);
+        v.write(2, 128, 1);
+        settle(v);
+        block(v, DISC, 48, -1, 1);
     }
 
     private static void lowestBlockFirst() {
@@ -365,6 +397,28 @@ public final class TreeEdgesTest extends Check {
         due("entry(0, 8, 0)", v.entry(0, 8, 0), 0);
     }
 
+    private static void placeThatIsGivenUp() {
+        part = "7, 8, PART 3: a place without a name is 0, 0";
+        Twin v = big();
+        v.make(0, 3, false);
+        v.make(0, 4, true);
+        v.make(0, 5, false);
+        v.move(0, 3, 2, 3);
+        due("entry(0, 0, 0)", v.entry(0, 0, 0), 0);
+        due("entry(0, 0, 1)", v.entry(0, 0, 1), 0);
+        v.move(0, 5, 0, 6);
+        due("entry(0, 0, 0)", v.entry(0, 0, 0), 6);
+        due("entry(0, 0, 1)", v.entry(0, 0, 1), 3);
+        due("entry(0, 2, 0)", v.entry(0, 2, 0), 0);
+        due("entry(0, 2, 1)", v.entry(0, 2, 1), 0);
+        v.remove(2, 3);
+        due("entry(2, 0, 0)", v.entry(2, 0, 0), 0);
+        due("entry(2, 0, 1)", v.entry(2, 0, 1), 0);
+        settle(v);
+        block(v, DISC, 61, 6, 3, 4, 2);
+        block(v, DISC, 62);
+    }
+
     private static void lastInode() {
         part = "2: FULL, no inode";
         Twin v = big();
@@ -457,6 +511,25 @@ public final class TreeEdgesTest extends Check {
         due("inode(1, 3)", v.inode(1, 3), 0);
     }
 
+    private static void cutOfBlocksThatAreNotThere() {
+        part = "6, PART 3: of what is cut off each block's number becomes 0, where there is one";
+        Twin v = big();
+        v.make(0, 3, false);
+        v.write(1, 0, 7);
+        v.write(1, 64, 7);
+        v.write(1, 319, 7);
+        v.cut(1, 304);
+        v.sync();
+        // no block from 5 on is there: the size alone is told
+        for (int n : new int[] {303, 288, 100, 96, 81, 80}) {
+            due("cut(1, " + n + ")", v.cut(1, n), 0);
+            due("changed", v.count(7), 1);
+        }
+        v.sync();
+        v.cut(1, 79);
+        due("changed, a block that n ends within", v.count(7), 2);
+    }
+
     private static void indirectBlock() {
         part = "6, PART 3: the indirect block is given back when none is in it";
         Twin v = big();
@@ -471,6 +544,8 @@ public final class TreeEdgesTest extends Check {
         v.cut(1, 64);
         due("inode(1, 3), none is in it", v.inode(1, 3), 0);
         due("count(11)", v.count(11), 1);
+        settle(v);
+        block(v, DISC, 49, 1, 8, 42, 0, 0, 0, 0, 0, 2, 64);
         v.write(1, 63, 1);
         due("inode(1, 3), a block without it", v.inode(1, 3), 1);
         v.write(1, 319, 1);

@@ -14,6 +14,8 @@ public final class VolumeEdgesTest extends Check {
         dirtyOnesArePassedBy();
         noneIsFound();
         cleanSlotIsTaken();
+        newestSlotIsRead();
+        slotsOfALandedEpoch();
         epochsThatWait();
         pairsOfARecord();
         sixteenSlots();
@@ -21,12 +23,15 @@ public final class VolumeEdgesTest extends Check {
         landBounds();
         oldestLandsTillThereIsOne();
         openOneIsClosedWhenTheSetIsFull();
+        openOneStaysOpen();
+        listByRisingBlocks();
         placesOfAHalf();
         recordsThatDoNotFit();
         halvesChangeBackAndForth();
         noEpochToTakeAlong();
         withoutTheFlash();
         attachBounds();
+        attachBeginsAnew();
         slotBounds();
         end("the volume's edges hold");
     }
@@ -247,6 +252,138 @@ public final class VolumeEdgesTest extends Check {
         slotIs(v, 6, 2, 0, v.count(3) - 1, 1, 0);
         due("hand", v.slot(7, 4), 1);
         slotIs(v, 0, 1, 43, 0, 0);
+        // the first slot of all is taken, too, though the hand is elsewhere
+        v = fileOf(3, new Twin(1, 8, 8));
+        v.read(1, 0);
+        v.write(1, 0, 9);
+        v.sync();
+        due("hand", v.slot(4, 4), 1);
+        v.home();
+        slotIs(v, 0, 2, 43, v.count(3) - 2, 1, 0);
+        slotIs(v, 4, 2, 0, v.count(3) - 1, 1, 0);
+        due("hand", v.slot(5, 4), 1);
+    }
+
+    /** The newest slot with a block, as slot() tells; -1 if there is none. */
+    private static int newest(Twin v, int slots, int b) {
+        int found = -1;
+        for (int i = 0; i < slots; i++) {
+            boolean newer = found < 0 || v.slot(i, 2) > v.slot(found, 2);
+            found = v.slot(i, 0) != 0 && v.slot(i, 1) == b && newer ? i : found;
+        }
+        return found;
+    }
+
+    /** The slot that is found in a set, as slot() tells its slots, marks and hand; -1 if all are dirty. */
+    private static int toFind(Twin v, int set, int ways) {
+        int[] mark = new int[ways];
+        int hand = 0;
+        for (int k = 0; k < ways; k++) {
+            mark[k] = v.slot(set * ways + k, 3);
+            hand = v.slot(set * ways + k, 4) == 1 ? k : hand;
+        }
+        for (int n = 0; n < 2 * ways; n++) {
+            int k = (hand + n) % ways;
+            int kind = v.slot(set * ways + k, 0);
+            if (kind == 0 || kind == 1 && mark[k] == 0) {
+                return set * ways + k;
+            }
+            mark[k] = kind == 1 ? 0 : mark[k];
+        }
+        return -1;
+    }
+
+    /** Runs in which blocks come to all slots, the first one of all too, and to two at once. */
+    private static void newestSlotIsRead() {
+        part = "5, 19, PART 2: the newest slot is read, and gets a mark; else a slot is found and written";
+        int[] seen = new int[4];
+        for (int sets = 1; sets <= 2; sets++) {
+            for (int ways = 2; ways <= 8; ways++) {
+                Twin v = fileOf(4, new Twin(sets, ways, 8));
+                for (int n = 0; n < 80; n++) {
+                    step(v, n * n + n / 3 + ways);
+                    int k = (n * 7 + ways) % 4;
+                    if (v.count(8) == 0) {
+                        seen[readAndLook(v, sets, ways, k)]++;
+                    }
+                }
+            }
+        }
+        for (int k = 0; k < seen.length; k++) {
+            due("such a read was there, " + k, seen[k] > 5, true);
+        }
+    }
+
+    private static void step(Twin v, int n) {
+        switch (n % 6) {
+            case 0: v.write(1, 16 * (n / 6 % 4), n); v.home(); break;
+            case 1: v.land(); break;
+            case 2: v.write(1, 16 * (n / 6 % 4), n); v.write(1, 16 * (n / 7 % 4), n); v.home(); break;
+            case 3: v.land(); v.land(); v.land(); break;
+            default: v.read(1, 16 * (n / 6 % 4));
+        }
+    }
+
+    /** 0: from a dirty slot, 1: from a clean one, 2: a slot was found, 3: none was. */
+    private static int readAndLook(Twin v, int sets, int ways, int k) {
+        int b = 43 + k;
+        int there = newest(v, sets * ways, b);
+        int found = toFind(v, b % sets, ways);
+        int writes = v.count(15);
+        long answer = v.read(1, 16 * k);
+        if (there >= 0) {
+            due("writes", v.count(15), writes);
+            due("mark", v.slot(there, 3), 1);
+            due("its words", answer, v.word(FLASH, 50 + there, 0, false));
+            return v.slot(there, 0) == 2 ? 0 : 1;
+        }
+        due("the disc's words", answer, v.word(DISC, 19 + b, 0, false));
+        due("writes", v.count(15), found < 0 ? writes : writes + 1);
+        if (found >= 0) {
+            slotIs(v, found, 1, b, 0, 0);
+            due("its words", v.word(FLASH, 50 + found, 0, false), answer);
+            due("hand", v.slot(found / ways * ways + (found % ways + 1) % ways, 4), 1);
+        }
+        return found < 0 ? 3 : 2;
+    }
+
+    private static void slotsOfALandedEpoch() {
+        part = "12, 19, PART 2: its slots are clean; each whose block has another dirty slot is free, without mark";
+        int freed = 0;
+        int first = 0;
+        for (int ways = 2; ways <= 8; ways++) {
+            Twin v = fileOf(4, new Twin(1, ways, 8));
+            for (int n = 0; n < 60; n++) {
+                step(v, n * n + 2 * n / 3 + ways);
+                int epoch = v.count(2) + 1;
+                int[][] had = new int[ways][4];
+                for (int i = 0; i < ways; i++) {
+                    for (int what = 0; what < 4; what++) {
+                        had[i][what] = v.slot(i, what);
+                    }
+                }
+                if (v.land() == 0) {
+                    continue;
+                }
+                for (int i = 0; i < ways; i++) {
+                    boolean other = false;
+                    for (int k = 0; k < ways; k++) {
+                        other |= k != i && had[k][0] == 2 && had[k][1] == had[i][1];
+                        first += k == 0 && had[i][2] == epoch && had[k][1] == had[i][1] && had[k][2] > epoch ? 1 : 0;
+                    }
+                    if (had[i][2] != epoch) {
+                        slotIs(v, i, had[i]);
+                    } else if (other) {
+                        freed++;
+                        slotIs(v, i, 0, NONE, 0, 0);
+                    } else {
+                        slotIs(v, i, 1, had[i][1], 0, had[i][3]);
+                    }
+                }
+            }
+        }
+        due("a slot was freed", freed > 5, true);
+        due("for the first of all slots", first > 0, true);
     }
 
     private static void epochsThatWait() {
@@ -441,6 +578,37 @@ public final class VolumeEdgesTest extends Check {
         counts(v, 2, 1, 3, 1, 0);
     }
 
+    private static void openOneStaysOpen() {
+        part = "PART 2: if a slot of the set is dirty of a closed epoch, the open one is not closed";
+        Twin v = new Twin(1, 3, 8);
+        v.make(0, 3, false);
+        // 1 to 3 in epoch 1, 4 in epoch 2, 5 in epoch 3
+        due("sync()", v.sync(), 3);
+        counts(v, 2, 1, 4, 2, 0);
+        v.write(1, 0, 9);
+        // 6 to 8 in epoch 4, for which 2 and 3 land; it is closed for 9, in epoch 5; 10 in epoch 6
+        due("sync()", v.sync(), 6);
+        counts(v, 2, 4, 7, 2, 0);
+        block(v, DISC, 2, 6, 7, 8);
+    }
+
+    private static void listByRisingBlocks() {
+        part = "12, PART 2: its blocks by rising numbers, not its slots";
+        Twin v = fileOf(1, big());
+        v.make(0, 4, false);
+        // 31 goes to set 7, 42 to set 2
+        v.home();
+        due("slot of 42", newest(v, 64, 42) < newest(v, 64, 31), true);
+        int epoch = v.slot(newest(v, 64, 42), 2);
+        due("one epoch", v.slot(newest(v, 64, 31), 2), epoch);
+        while (v.count(2) < epoch) {
+            v.land();
+        }
+        block(v, DISC, 2, 31, 42);
+        block(v, DISC, 3, 2);
+        block(v, DISC, 4, 3, 1, 4, 2);
+    }
+
     /** Two records, one of each of its epochs, each time. */
     private static void twoRecords(Twin v, int times) {
         for (int n = 0; n < times; n++) {
@@ -619,6 +787,27 @@ public final class VolumeEdgesTest extends Check {
         v.make(0, 3, false);
         due("sync()", v.sync(), 2);
         due("the first place is next", v.word(FLASH, 1, 1, true), 1);
+    }
+
+    private static void attachBeginsAnew() {
+        part = "18: generation 1, whatever it was; the next place is the first one";
+        Twin v = fileOf(2, new Twin(8, 8, 1));
+        twoRecords(v, 3);
+        v.home();
+        block(v, FLASH, 25, 2, 1);
+        landAll(v);
+        v.crash(0);
+        int landed = v.mount(false, 0, 0);
+        due("attach()", v.attach(), 0);
+        block(v, FLASH, 0, 1, 3);
+        v.write(1, 0, 9);
+        due("sync()", v.sync(), landed + 2);
+        due("generation", v.word(FLASH, 1, 0, true), 1);
+        due("epoch", v.word(FLASH, 1, 1, true), landed + 1);
+        due("generation", v.word(FLASH, 2, 0, true), 1);
+        block(v, FLASH, 25);
+        twoRecords(v, 12);
+        block(v, FLASH, 25, 2, 3);
     }
 
     private static void slotBounds() {
