@@ -23,6 +23,7 @@ public final class TreeEdgesTest extends Check {
         cutOfAnEmptyFile();
         cutOfBlocksThatAreNotThere();
         indirectBlock();
+        numbersInTheIndirectBlock();
         readBounds();
         entryBounds();
         inodeBounds();
@@ -555,6 +556,70 @@ public final class TreeEdgesTest extends Check {
         block(v, DISC, 63, 0, 0, 0, 0, 0, 0, 0, 0, 0, 0, 0, 0, 0, 0, 0, 45);
         v.remove(0, 3);
         due("count(11)", v.count(11), 1);
+    }
+
+    /** File 1 with blocks 4 and 5 (44, 45), the indirect one is 43; all is at home. */
+    private static Twin twoInTheIndirectBlock() {
+        Twin v = big();
+        v.make(0, 3, false);
+        v.write(1, 64, 70);
+        v.write(1, 80, 71);
+        settle(v);
+        block(v, DISC, 49, 1, 8, 42, 0, 0, 0, 0, 0, 2, 81, 0, 0, 0, 0, 43);
+        block(v, DISC, 62, 44, 45);
+        return v;
+    }
+
+    /** These blocks are committed, no others; the journal is on the disc then. */
+    private static void committed(String call, Twin v, int... blocks) {
+        due(call + ": changed", v.count(7), blocks.length);
+        v.sync();
+        landAll(v);
+        due(call + ": n", v.word(DISC, 20, 2, true), blocks.length);
+        for (int j = 0; j < 12; j++) {
+            due(call + ": block " + j, v.word(DISC, 20, 3 + j, true), j < blocks.length ? blocks[j] : 0);
+        }
+    }
+
+    private static void numbersInTheIndirectBlock() {
+        part = "6, PART 3: of what is cut off each block's number becomes 0, in the inode or the indirect block";
+        Twin two = twoInTheIndirectBlock();
+        Twin v = two.copy();
+        v.cut(1, 80);
+        committed("one is cut off", v, 29, 30, 43);
+        block(v, DISC, 23, 44);
+        v = two.copy();
+        v.cut(1, 70);
+        committed("one is cut off, n ends within the other one", v, 29, 30, 43, 44);
+        block(v, DISC, 23, 44);
+        block(v, DISC, 24, 70);
+        v = two.copy();
+        v.cut(1, 64);
+        // told to be 0, so it was changed when it was given back
+        committed("both are cut off", v, 29, 30, 43);
+        // words 0 of the map and of the root's inode are 1
+        due("word 15", v.word(DISC, 20, 15, true), 1 + 4);
+        block(v, DISC, 21);
+        block(v, DISC, 22, 0, 8, 42, 0, 0, 0, 0, 0, 2, 64);
+        block(v, DISC, 23);
+        v = two.copy();
+        v.cut(1, 81);
+        due("nothing is cut off: changed", v.count(7), 0);
+        v = two.copy();
+        v.cut(1, 64);
+        v.write(1, 17, 72);
+        // the lowest one is taken anew, as a file's block
+        committed("both are cut off, the indirect one is taken again", v, 29, 30, 43);
+        block(v, DISC, 23, 0, 72);
+        v = two.copy();
+        v.remove(0, 3);
+        committed("what is removed is given back as it is", v, 29, 30, 42);
+        v = two.copy();
+        v.write(1, 96, 73);
+        v.remove(0, 3);
+        committed("the indirect one was changed ahead of that", v, 29, 30, 42, 43, 46);
+        block(v, DISC, 24, 44, 45, 46);
+        block(v, DISC, 25, 73);
     }
 
     private static void readBounds() {

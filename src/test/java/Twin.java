@@ -89,7 +89,7 @@ final class Twin {
         return change(v -> readOf(v, file, place));
     }
 
-    private static long readOf(EpochVolume v, int file, int place) {
+    static long readOf(EpochVolume v, int file, int place) {
         try {
             return v.read(file, place);
         } catch (IllegalStateException e) {
